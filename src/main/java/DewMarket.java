@@ -1452,22 +1452,22 @@ public final class DewMarket {
         }
 
         int waysToHang() {
-            return waysToJoin(0, KNOTS - 1, ALL_APART);
+            return waysToJoin(threads, 0, KNOTS - 1, ALL_APART);
         }
 
         /** In how many ways so many threads from this one on join the parts without a ring. */
-        private int waysToJoin(int thread, int missing, int parts) {
+        private static int waysToJoin(Rows threads, int thread, int missing, int parts) {
             if (missing == 0) {
                 return 1;
             }
             if (threads.count - thread < missing) {
                 return 0;
             }
-            int ways = waysToJoin(thread + 1, missing, parts);
+            int ways = waysToJoin(threads, thread + 1, missing, parts);
             int a = parts >> 3 * threads.get(thread, 0) & 7;
             int b = parts >> 3 * threads.get(thread, 1) & 7;
             if (a != b) {
-                ways += waysToJoin(thread + 1, missing - 1, joinedParts(parts, a, b));
+                ways += waysToJoin(threads, thread + 1, missing - 1, joinedParts(parts, a, b));
             }
             return ways;
         }
@@ -1524,12 +1524,12 @@ public final class DewMarket {
         int crossings() {
             int couples = 0;
             for (int i = 0; i < strings.count; i++) {
-                couples += Integer.bitCount(crossedBy(i));
+                couples += Integer.bitCount(crossedBy(strings, i));
             }
             return couples / 2;
         }
 
-        private int crossedBy(int chord) {
+        private static int crossedBy(Rows strings, int chord) {
             int low = Math.min(strings.get(chord, 0), strings.get(chord, 1));
             int high = Math.max(strings.get(chord, 0), strings.get(chord, 1));
             int set = 0;
@@ -1544,44 +1544,46 @@ public final class DewMarket {
         }
 
         int mostUncrossed() {
-            return mostOf(0, 0);
+            return mostOf(strings, 0, 0);
         }
 
         /** The most of the chords from this one on, without those that are crossed by what was chosen. */
-        private int mostOf(int chord, int crossed) {
+        private static int mostOf(Rows strings, int chord, int crossed) {
             if (chord >= strings.count) {
                 return 0;
             }
-            int without = mostOf(chord + 1, crossed);
+            int without = mostOf(strings, chord + 1, crossed);
             if ((crossed >> chord & 1) != 0) {
                 return without;
             }
-            return Math.max(without, 1 + mostOf(chord + 1, crossed | crossedBy(chord)));
+            return Math.max(without, 1 + mostOf(strings, chord + 1, crossed | crossedBy(strings, chord)));
         }
 
         int roundSteps() {
-            return stops.count < 2 ? 0 : bestRound(0, (1 << stops.count) - 2, 0, 0) / STEP;
+            return stops.count < 2 ? 0 : bestRound(stops, 0, (1 << stops.count) - 2, 0, 0) / STEP;
         }
 
         int roundOrder() {
-            return stops.count < 2 ? 0 : bestRound(0, (1 << stops.count) - 2, 0, 0) % STEP;
+            return stops.count < 2 ? 0 : bestRound(stops, 0, (1 << stops.count) - 2, 0, 0) % STEP;
         }
 
-        private int bestRound(int here, int left, int steps, int order) {
+        /** The best way on from here through all that are left, and back to the first. */
+        private static int bestRound(Rows stops, int here, int left, int steps, int order) {
             if (left == 0) {
-                return (steps + way(here, 0)) * STEP + order;
+                return (steps + way(stops, here, 0)) * STEP + order;
             }
             int best = Integer.MAX_VALUE;
             for (int next = 1; next < stops.count; next++) {
                 if ((left >> next & 1) != 0) {
-                    int round = bestRound(next, left & ~(1 << next), steps + way(here, next), order * 10 + next);
-                    best = Math.min(best, round);
+                    int rest = left & ~(1 << next);
+                    int longer = steps + way(stops, here, next);
+                    best = Math.min(best, bestRound(stops, next, rest, longer, order * 10 + next));
                 }
             }
             return best;
         }
 
-        private int way(int a, int b) {
+        private static int way(Rows stops, int a, int b) {
             return Math.abs(stops.get(a, 0) - stops.get(b, 0)) + Math.abs(stops.get(a, 1) - stops.get(b, 1));
         }
 
@@ -1886,25 +1888,29 @@ public final class DewMarket {
             for (int start = 0; start < 2 * w * h; start++) {
                 int place = start / 2;
                 int two = twoAt(place / w * SIDE + place % w, start % 2);
-                if (two != 0 && (board & two) == 0 && !wins(board | two, 1)) {
+                if (two != 0 && (board & two) == 0 && !wins(known, board | two, 1)) {
                     return start;
                 }
             }
             return NONE;
         }
 
-        private boolean wins(int board, int moves) {
+        private static boolean wins(int[] known, int board, int moves) {
+            int at = board >> 4;
+            if (at < 0 || at >= known.length) {
+                return false;
+            }
             int shift = (board & 15) * 2;
-            int found = known[board >> 4 & 4095] >>> shift & 3;
+            int found = known[at] >>> shift & 3;
             if (found != 0) {
                 return found == WINS;
             }
             boolean won = false;
             for (int start = 0; start < 2 * SIDE * SIDE && !won && moves < MOST_MOVES; start++) {
                 int two = twoAt(start / 2, start % 2);
-                won = two != 0 && (board & two) == 0 && !wins(board | two, moves + 1);
+                won = two != 0 && (board & two) == 0 && !wins(known, board | two, moves + 1);
             }
-            known[board >> 4 & 4095] |= (won ? WINS : LOSES) << shift;
+            known[at] |= (won ? WINS : LOSES) << shift;
             return won;
         }
 

@@ -25,6 +25,7 @@ public final class PromiseTests {
         mourner5();
         set6();
         act7();
+        drawsAtTheEdge7();
         minutes8();
         feedAndEnd9And10();
         text11();
@@ -87,6 +88,21 @@ public final class PromiseTests {
         int state = 1664525 + 1013904223;
         eq("2: state drawn", m.look(10), state);
         eq("2: torn by the draw", m.of(0, 3), (state >>> 8) % 1000 < 900 ? 1 : 0);
+    }
+
+    /** From STATE 0 the first DRAW of 1000 is 563. */
+    private static void drawsAtTheEdge7() {
+        int[] tears = {0, 1, 563, 564, 1000};
+        for (int each : tears) {
+            DewMarket m = new DewMarket();
+            m.web(0, 10);
+            m.gatherer(0);
+            m.set(0, 0, 10);
+            Check.tell(m, 0, "tears " + each + ";");
+            m.act(1, 0, 1);
+            eq("7: torn by " + each, m.of(0, 3), each > 563 ? 1 : 0);
+            eq("7: a draw for " + each, m.look(10), each > 0 ? 1013904223 : 0);
+        }
     }
 
     private static void web3() {
@@ -383,7 +399,8 @@ public final class PromiseTests {
     private static void faultsOfTheLaw12() {
         DewMarket m = new DewMarket();
         String[] outOfPlace = {
-            "|;", "|when", "|1;", "|Forms 1;", "|formss 1;", "forms |\t1;", "forms |\u00e9;", "forms 1 |2;",
+            "|formsz 1;", "|formsa 1;", "|formsA 1;", "|formsZ 1;", "forms|@ 1;", "forms|[ 1;", "forms|` 1;", "forms|{ 1;",
+            "forms 1|:;", "|;", "|when", "|1;", "|Forms 1;", "|formss 1;", "forms |\t1;", "forms |\u00e9;", "forms 1 |2;",
             "forms |12345;", "forms |00001;", "forms beads / |beads;", "forms 1 + |;", "forms 1 * |* 2;", "forms |-1;",
             "forms |(1);", "forms 1 when |;", "forms 1 when 1 |;", "forms 1 when (1 |);", "forms 1 when (1=1|;",
             "forms 1 when 1=1|);", "forms 1 when 1=1 or |;", "forms 1 when 1=|not 1=1;", "forms 1 when 1=1 |= 1;",
@@ -403,6 +420,9 @@ public final class PromiseTests {
         CHECK.faulty(m, 0, "forms 1 when " + "not(".repeat(4) + "not 1=1;", 3, 29);
         CHECK.faulty(m, 0, "forms 1 when " + "(".repeat(8) + "1", 1, 22);
         String deep = "not(".repeat(4) + "1=1" + ")".repeat(4);
+        eq("12: a whole tape", Check.tell(m, 0, "forms 1" + "+1".repeat(196) + ";"), 1);
+        CHECK.faulty(m, 0, "forms 1" + "+1".repeat(196) + "+", 1, 400);
+        CHECK.faulty(m, 0, ";".repeat(400), 1, 0);
         eq("12: eight open", Check.tell(m, 0, "forms 1 when " + deep + " and " + deep + "or not " + "1=1;"), 1);
         eq("12: not is shut again", Check.tell(m, 0, "forms 1 when not 1=1" + " or not 1=1".repeat(20) + ";"), 1);
     }

@@ -445,6 +445,11 @@ public final class DewMarket {
         return v >= low && v <= high;
     }
 
+    /** A place outside reads 0. */
+    private static int cellOf(int[] row, int i) {
+        return i >= 0 && i < row.length ? row[i] : 0;
+    }
+
     /** Up to so many rows of so many numbers; a place outside reads 0 and takes nothing. */
     private static final class Rows {
         final int limit;
@@ -906,7 +911,7 @@ public final class DewMarket {
                 int kind = steps.get(i, 0);
                 if (kind == Reader.NUMBER || Reader.isFact(kind)) {
                     if (high < PILE) {
-                        pile[high] = kind == Reader.NUMBER ? steps.get(i, 1) : facts[kind - Reader.BEADS_WORD];
+                        pile[high] = kind == Reader.NUMBER ? steps.get(i, 1) : cellOf(facts, kind - Reader.BEADS_WORD);
                         high++;
                     }
                 } else if (kind == Reader.NOT) {
@@ -1165,7 +1170,7 @@ public final class DewMarket {
                     fail(OUT_OF_PLACE);
                     return;
                 }
-                int value = values[at];
+                int value = cellOf(values, at);
                 if (times == PART && value == 0) {
                     fail(OUT_OF_BOUNDS);
                     return;
@@ -1223,7 +1228,7 @@ public final class DewMarket {
             expect(kind == WEB);
             int one = number(0, hedge.webs.count - 1);
             expect(kind == NEAR_WORD);
-            if (fault == 0 && kind == NUMBER && values[at] == one) {
+            if (fault == 0 && kind == NUMBER && cellOf(values, at) == one) {
                 fail(OUT_OF_BOUNDS);
             }
             int other = number(0, hedge.webs.count - 1);
@@ -1240,7 +1245,7 @@ public final class DewMarket {
         }
 
         private int number(int low, int high) {
-            int value = values[at];
+            int value = cellOf(values, at);
             if (kind != NUMBER) {
                 fail(OUT_OF_PLACE);
             } else if (value < low || value > high) {
@@ -1255,14 +1260,14 @@ public final class DewMarket {
         private void fail(int why) {
             if (fault == 0) {
                 fault = why;
-                faultPlace = places[at];
+                faultPlace = cellOf(places, at);
             }
         }
 
         private void step() {
             if (fault == 0 && at + 1 < tokens) {
                 at++;
-                kind = kinds[at];
+                kind = cellOf(kinds, at);
             }
         }
 
@@ -1290,7 +1295,7 @@ public final class DewMarket {
             }
             addToken(END, 0, tape.count);
             at = 0;
-            kind = kinds[0];
+            kind = cellOf(kinds, 0);
         }
 
         /** Letters and digits stand together with their like, all else alone. */
@@ -1366,10 +1371,10 @@ public final class DewMarket {
 
         void keep(Hedge hedge, int bookLines) {
             if (count == KEPT) {
-                first = (first + 1) % KEPT;
+                first = Math.floorMod(first + 1, KEPT);
                 count--;
             }
-            int slot = (first + count) % KEPT;
+            int slot = Math.floorMod(first + count, KEPT);
             Hedge room = hedges[slot];
             if (room != null) {
                 room.copyFrom(hedge);
@@ -1381,7 +1386,7 @@ public final class DewMarket {
         /** How long THE BOOK was then: its lines up to there are as they were, as it only grows in between. */
         int goBack(Hedge hedge) {
             count = Math.max(0, count - 1);
-            int slot = (first + count) % KEPT;
+            int slot = Math.floorMod(first + count, KEPT);
             Hedge was = hedges[slot];
             if (was != null) {
                 hedge.copyFrom(was);
@@ -1421,6 +1426,8 @@ public final class DewMarket {
         private static final int ALL_APART = 5 << 15 | 4 << 12 | 3 << 9 | 2 << 6 | 1 << 3;
         /** A round is packed as steps times this and its order, so that the least is the best. */
         private static final int STEP = 1000000;
+        /** More than any round. */
+        private static final int NO_ROUND = 1000 * STEP;
         private static final long ALL_PLACES = (1L << 36) - 1;
         private static final long TOP_ROW = 63L;
         private static final long LAST_ROW = 63L << 30;
@@ -1572,7 +1579,7 @@ public final class DewMarket {
             if (left == 0) {
                 return (steps + way(stops, here, 0)) * STEP + order;
             }
-            int best = Integer.MAX_VALUE;
+            int best = NO_ROUND;
             for (int next = 1; next < stops.count; next++) {
                 if ((left >> next & 1) != 0) {
                     int rest = left & ~(1 << next);
@@ -1588,7 +1595,7 @@ public final class DewMarket {
         }
 
         int nextOrder() {
-            int n = digits.count;
+            int n = Math.min(digits.count, scratch.length);
             for (int i = 0; i < n; i++) {
                 scratch[i] = digits.get(i, 0);
             }
@@ -1615,6 +1622,9 @@ public final class DewMarket {
         }
 
         private void swap(int a, int b) {
+            if (!within(a, 0, scratch.length - 1) || !within(b, 0, scratch.length - 1)) {
+                return;
+            }
             int kept = scratch[a];
             scratch[a] = scratch[b];
             scratch[b] = kept;
@@ -1669,7 +1679,7 @@ public final class DewMarket {
                 }
             }
             if (what == 0) {
-                return high > 0 ? scratch[high - 1] : 0;
+                return cellOf(scratch, high - 1);
             }
             return what == 1 ? high : stuck;
         }
@@ -1684,13 +1694,13 @@ public final class DewMarket {
         /** Does one sign with so many on the stack as it needs; how many lie there then. */
         private int layOn(int sign, int high) {
             if (sign <= 9 || sign == 13) {
-                if (high >= scratch.length) {
+                if (!within(high, 0, scratch.length - 1)) {
                     return high;
                 }
-                scratch[high] = sign <= 9 || high == 0 ? sign : scratch[high - 1];
+                scratch[high] = sign <= 9 ? sign : cellOf(scratch, high - 1);
                 return high + 1;
             }
-            if (high < 2) {
+            if (high < 2 || high > scratch.length) {
                 return high;
             }
             int lower = scratch[high - 2];

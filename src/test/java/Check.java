@@ -51,6 +51,10 @@ final class Check {
         eq("place of the fault of '" + text + "'", m.fault(1), place);
     }
 
+    int count() {
+        return right + wrong;
+    }
+
     void close(String name) {
         System.out.println(name + ": " + right + " answers right, " + wrong + " wrong");
         if (wrong != 0) {

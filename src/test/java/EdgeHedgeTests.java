@@ -498,6 +498,18 @@ public final class EdgeHedgeTests {
     }
 
     private static void spin7() {
+        E.says(7, "to SPIN a WEB that is TORN", m -> {
+            for (int i = 0; i < 12; i++) {
+                m.web(0, 1);
+            }
+            m.gatherer(0);
+            Edges.tearWeb(m, 11, 0);
+            for (int i = 0; i < 11; i++) {
+                E.no("not torn", m.act(3, i, 0));
+            }
+            E.yes("the last", m.act(3, 11, 0));
+            E.no("nobody's number but a web's", m.act(3, 12, 0));
+        });
         E.says(7, "3 to SPIN WEB who (v not asked)", m -> {
             m.web(0, 5);
             m.gatherer(0);
@@ -515,6 +527,20 @@ public final class EdgeHedgeTests {
     }
 
     private static void of13() {
+        E.says(13, "Of a WEB what 0 PLACE, 1 SPUN, 2 BEADS, 3 TORN, 4 forms, 5 dries, 6 tears", m -> {
+            m.web(19, 30);
+            m.gatherer(19);
+            m.set(0, 0, 90);
+            Check.tell(m, 0, "forms 20;dries 19;tears 1000;");
+            int[] due = {19, 30, 90, 0, 20, 19, 1000};
+            for (int what = 0; what <= 6; what++) {
+                E.eq("what " + what, m.of(0, what), due[what]);
+            }
+            m.act(1, 0, 1);
+            E.eq("beads of a torn one", m.of(0, 2), 0);
+            E.eq("torn", m.of(0, 3), 1);
+            E.eq("forms of a torn one, too", m.of(0, 4), 20);
+        });
         E.says(13, "7 which are near it (a set). NONE if there is none such, or another what.", m -> {
             E.none("no webs", m.of(0, 0));
             for (int i = 0; i < 12; i++) {
@@ -645,6 +671,28 @@ public final class EdgeHedgeTests {
             E.eq("16", m.look(16), -100000);
             E.eq("MIN", m.look(MIN), -100000);
             E.eq("MAX", m.look(MAX), -100000);
+        });
+        E.says(44, "4 MIST, 5 SUN, 6 WIND, 7 LOST, 8 MINUTE, 9 lines of THE BOOK, 10 STATE, 11 lines of THE LAW, 12 of PATHS,"
+                + " 13 of SKY, 14 of NEAR, 15 what can be undone", m -> {
+            m.web(0, 1);
+            m.web(0, 9);
+            m.gatherer(0);
+            m.mourner(0, 9, 1);
+            m.set(1, 0, 9);
+            m.set(3, 0, 9);
+            m.set(4, 0, 8);
+            m.set(5, 0, 7);
+            m.state(-7);
+            Check.tell(m, 0, "tears 0;tears 0;tears 0;");
+            Check.tell(m, 1, "at 999 gatherer 0 go 1;".repeat(4));
+            Check.tell(m, 2, "at 999 sun 1;".repeat(5));
+            Check.tell(m, 3, "web 0 near 1;".repeat(6));
+            m.minutes(1);
+            m.act(2, 0, 0);
+            int[] due = {2, 1, 1, 0, 9, 8, 7, 3 + 8, 1, 1, -7, 3, 4, 5, 6, 2};
+            for (int what = 0; what <= 15; what++) {
+                E.eq("look(" + what + ")", m.look(what), due[what]);
+            }
         });
         E.says(44, "3 those TORN (a set)", m -> {
             for (int i = 0; i < 12; i++) {

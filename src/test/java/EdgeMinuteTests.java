@@ -314,6 +314,21 @@ public final class EdgeMinuteTests {
                 E.eq("in the book if above 0", one.look(9), each[3] > 0 ? 1 : 0);
             }
         });
+        E.says(8, "they go from the THIMBLE, NEED so many less, WEPT so many more, PURSE PAYS for each more", m -> {
+            m.gatherer(0);
+            m.gatherer(0);
+            m.mourner(0, 99, 9);
+            m.mourner(0, 99, 1);
+            m.set(1, 1, 40);
+            Check.tell(m, 1, "at 0 gatherer 1 sell 0 40;at 0 gatherer 1 sell 1 40;");
+            E.eq("wept", m.minutes(1), 40);
+            E.eq("all his beads", m.who(1, 2), 0);
+            E.eq("nine for each", m.who(1, 3), 360);
+            E.eq("the other gatherer's purse", m.who(0, 3), 0);
+            E.eq("need", m.weeper(0, 1), 59);
+            E.eq("wept", m.weeper(0, 4), 40);
+            E.eq("none are left for the other", m.weeper(1, 4), 0);
+        });
         E.says(8, "to a MOURNER at his PLACE (where he stands then)", m -> {
             m.gatherer(3);
             m.mourner(3, 9, 1);
@@ -376,6 +391,21 @@ public final class EdgeMinuteTests {
             E.eq("full", one.of(1, 2), 6);
             E.eq("its share", one.of(2, 2), 10);
             E.eq("what found no room is lost", one.look(7), 24);
+        });
+        E.says(8, "so many go to each of these", m -> {
+            for (int i = 0; i < 12; i++) {
+                m.web(i, 30);
+            }
+            m.gatherer(5);
+            m.set(0, 5, 81);
+            Check.tell(m, 3, "web 0 near 5;web 5 near 11;web 1 near 5;web 10 near 5;");
+            Check.tell(m, 0, "tears 1000;");
+            m.act(1, 0, 1);
+            int[] due = {10, 10, 0, 0, 0, 0, 0, 0, 0, 0, 10, 10};
+            for (int web = 0; web < 12; web++) {
+                E.eq("web " + web, m.of(web, 2), due[web]);
+            }
+            E.eq("lost", m.look(7), 40);
         });
         E.says(8, "by how many WEBS are near it and not TORN", m -> {
             for (int i = 0; i < 3; i++) {
@@ -462,6 +492,26 @@ public final class EdgeMinuteTests {
             for (int i = 0; i < due.length; i++) {
                 for (int what = 0; what <= 3; what++) {
                     E.eq("line " + i + ", " + what, m.book(i, what), due[i][what]);
+                }
+            }
+        });
+        E.says(16, "MINUTE, what (0 took, 1 torn, 2 sold), who (0, 2: the GATHERER; 1: the WEB)", m -> {
+            for (int i = 0; i < 8; i++) {
+                m.web(i < 3 ? 1 : 0, 9);
+                m.gatherer(0);
+            }
+            for (int i = 0; i < 3; i++) {
+                m.mourner(0, i, 1);
+            }
+            m.set(0, 7, 9);
+            m.minutes(60);
+            Check.tell(m, 0, "tears 1000;");
+            m.act(1, 6, 5);
+            m.act(2, 6, 2);
+            int[][] due = {{60, 0, 6, 5}, {60, 1, 7, 4}, {60, 2, 6, 2}};
+            for (int line = 0; line < 3; line++) {
+                for (int what = 0; what <= 3; what++) {
+                    E.eq("line " + line + ", " + what, m.book(line, what), due[line][what]);
                 }
             }
         });

@@ -14,6 +14,7 @@ public final class EdgeTextTests {
         lines11();
         near11();
         numbersOfPaths12();
+        grammarOfPaths12();
         numbersOfSky12();
         whoThereIs12();
         fault12();
@@ -27,6 +28,7 @@ public final class EdgeTextTests {
         manyLines12();
         open12();
         grammar13();
+        deep13();
         wrapping13();
         heldTo13();
         whichLine13();
@@ -234,6 +236,23 @@ public final class EdgeTextTests {
         });
     }
 
+    private static void grammarOfPaths12() {
+        E.says(12, "1 PATHS = {at MINUTE gatherer GATHERER (go PLACE | take N | sell MOURNER N) ;}", m -> {
+            populated(m);
+            E.told(m, 1, "", 0);
+            E.faulty(m, 1, 1, "|;", "at 0 gatherer 0 go 1;|;", "at 0 gatherer 0 go 1 |at 0 gatherer 0 go 1;",
+                    "at 0 gatherer 0 |gatherer 0 go 1;", "at |at 0 gatherer 0 go 1;", "at 0 gatherer 0 go |go 1;");
+        });
+        E.says(12, "one beyond its bounds", m -> {
+            populated(m);
+            E.faulty(m, 1, 2, "at |1000 gatherer 0 go 1;", "at 0 gatherer 0 go |20;", "at 0 gatherer 0 take |41;",
+                    "at 0 gatherer 0 take |0000;", "at 0 gatherer 0 sell 0 |0000;", "at 0 gatherer 0 sell 0 |41");
+            E.faulty(m, 2, 2, "at |1000 wind 0;", "at 0 mist |0010;", "at 0 sun |10", "at 0 wind |9999 x");
+            // a NUMBER of THE LAW has no bounds but its four digits
+            E.told(m, 0, "forms 9999+0 when 9999>0 and 0<9999;", 1);
+        });
+    }
+
     private static void numbersOfSky12() {
         E.says(12, "(N 0 .. 9.)", m -> {
             populated(m);
@@ -313,6 +332,18 @@ public final class EdgeTextTests {
     }
 
     private static void outOfPlace12() {
+        E.says(12, "0 THE LAW = {(forms | dries | tears) E [when B] ;}", m -> {
+            E.told(m, 0, "", 0);
+            E.told(m, 0, "forms 1;dries 1;tears 1;", 3);
+            E.told(m, 0, "tears 1 when 1=1;dries 1 when 1=1;forms 1 when 1=1;", 3);
+            E.faulty(m, 0, 1, "forms 1;|;", "forms 1 |dries 1;", "forms 1 when 1=1 |forms 1;", "forms |x;");
+        });
+        E.says(12, "U = NUMBER | beads | spun | place | near | torn | mist | sun | wind | minute", m -> {
+            for (String word : "beads spun place near torn mist sun wind minute".split(" ")) {
+                E.told(m, 0, "forms " + word + ";tears 1+" + word + "*" + word + " when " + word + "=" + word + ";", 2);
+                E.faulty(m, 0, 1, "forms |" + word + "s;", "|" + word + ";", "forms 1/|" + word + ";", "forms 1 |" + word + ";");
+            }
+        });
         E.says(12, "1 what can't stand there", m -> {
             E.faulty(m, 0, 1, "|;", "|1;", "|+", "|when 1=1;", "|beads;", "|not", "|(", "forms |;", "forms |when 1=1;",
                     "forms |not 1=1;", "forms |(1);", "forms |+1;", "forms |forms 1;", "forms 1 |1;", "forms 1 |beads;",
@@ -425,6 +456,19 @@ public final class EdgeTextTests {
             E.faulty(m, 0, 3, "forms 1 when ((((((((|" + "(".repeat(379));
             E.told(m, 0, " ".repeat(400), 0);
         });
+        E.says(11, "The TAPE, empty then (whatever k, with a FAULT too), is TEXT k", m -> {
+            // a whole tape each time: what was read before, with a FAULT too, takes no room
+            populated(m);
+            for (int i = 1; i <= 9; i++) {
+                E.faulty(m, 0, 1, "forms " + i + "+1-1".repeat(98) + "+|");
+                E.told(m, 0, "forms " + i + "+1-1".repeat(98) + ";", 1);
+                E.eq("forms", m.of(0, 4), i);
+            }
+            E.told(m, 0, "forms 7 when " + "1=1 and ".repeat(47) + "1=1;", 1);
+            E.eq("all are so", m.of(0, 4), 7);
+            E.told(m, 0, "forms 7 when " + "1=1 and ".repeat(47) + "1=2;", 1);
+            E.eq("the last is not", m.of(0, 4), 0);
+        });
     }
 
     private static void whichFault12() {
@@ -518,6 +562,15 @@ public final class EdgeTextTests {
             E.eq("from the left", forms(m, "7/4*2"), 2);
             E.eq("from the left", forms(m, "40/3/4"), 3);
             E.eq("in a sum", forms(m, "1+7/2+1"), 5);
+            E.eq("by 1", forms(m, "7/1"), 7);
+            E.eq("by the greatest", forms(m, "9999/9999"), 1);
+            E.eq("less than the greatest", forms(m, "9998/9999"), 0);
+        });
+        E.says(13, "B = A {or A}. A = C {and C}.", m -> {
+            populated(m);
+            for (int row = 0; row < 8; row++) {
+                allWays(m, (row & 4) != 0, (row & 2) != 0, (row & 1) != 0);
+            }
         });
         E.says(13, "B = A {or A}. A = C {and C}.", m -> {
             populated(m);
@@ -543,6 +596,49 @@ public final class EdgeTextTests {
             E.eq("not of the first alone", forms(m, "7 when not 1=1 or 1=1"), 7);
             E.eq("not of the first alone", forms(m, "7 when not 1=2 and 1=2"), 0);
         });
+    }
+
+    /** One row of the table of truth: conditions of three that are so or not, by each of the three signs. */
+    private static void allWays(DewMarket m, boolean first, boolean second, boolean third) {
+        String a = first ? "1<2" : "1>2";
+        String b = second ? "1=1" : "1<1";
+        String c = third ? "2>1" : "1=2";
+        is(m, a, first);
+        is(m, "not " + a, !first);
+        is(m, "not not " + c, third);
+        is(m, a + " and " + b, first && second);
+        is(m, a + " or " + b, first || second);
+        is(m, a + " and (" + c + ")", first && third);
+        is(m, a + " or (" + c + ")", first || third);
+        is(m, a + " and not " + b, first && !second);
+        is(m, "not " + a + " or " + c, !first || third);
+        is(m, "not (" + a + " or " + c + ")", !(first || third));
+        is(m, "not (" + a + " and " + b + ")", !(first && second));
+        is(m, a + " and " + b + " and " + c, first && second && third);
+        is(m, a + " or " + b + " or " + c, first || second || third);
+        is(m, a + " and " + b + " or " + c, first && second || third);
+        is(m, a + " or " + b + " and " + c, first || second && third);
+        is(m, "(" + a + " or " + b + ") and " + c, (first || second) && third);
+        is(m, a + " and (" + b + " or " + c + ")", first && (second || third));
+        is(m, a + " or (" + b + " and not " + c + ")", first || second && !third);
+        is(m, "(" + a + ") and ((" + b + ") or not (" + c + "))", first && (second || !third));
+    }
+
+    private static void deep13() {
+        E.says(13, "B = A {or A}. A = C {and C}. C = E (< | = | >) E | not C | ( B ).", m -> {
+            // eight open, at each level two that wait for what is within
+            populated(m);
+            String down = "1=2 or 1=1 and (".repeat(8);
+            String up = ")".repeat(8);
+            is(m, down + "2+3*4/5-1=3" + up, true);
+            is(m, down + "2+3*4/5-1=4" + up, false);
+            is(m, "not (1=2 or 1=1 and ".repeat(4) + "1+1*2>2" + ")".repeat(4), true);
+            is(m, "not (1=2 or 1=1 and ".repeat(3) + "1+1*2>2" + ")".repeat(3), false);
+        });
+    }
+
+    private static void is(DewMarket m, String condition, boolean so) {
+        E.eq(condition, forms(m, "7 when " + condition), so ? 7 : 0);
     }
 
     private static void wrapping13() {

@@ -110,6 +110,20 @@ public final class EdgeThoughtTests {
     }
 
     private static void square22And23() {
+        E.says(22, "A number of the square for DETERMINANT (place 0 .. 8, row by row)", m -> {
+            // in each place of the unit square a 2 shows which row and column it is in
+            int[] due = {2, 1, 1, 1, 2, 1, 1, 1, 2};
+            for (int place = 0; place <= 8; place++) {
+                square(m, 1, 0, 0, 0, 1, 0, 0, 0, 1);
+                E.yes("cell " + place, m.cell(place, 2));
+                E.eq("cell " + place, m.determinant(), due[place]);
+            }
+            square(m, 0, 1, 0, 0, 0, 1, 1, 0, 0);
+            m.cell(1, 3);
+            m.cell(5, 5);
+            m.cell(6, 7);
+            E.eq("row by row", m.determinant(), 105);
+        });
         E.says(22, "true; false if one can't be", m -> {
             E.no("place -1", m.cell(-1, 1));
             E.no("place 9", m.cell(9, 1));
@@ -416,6 +430,14 @@ public final class EdgeThoughtTests {
             go(m, 5, 5, 0, 0, 10, 0, 0, 10, 10, 10);
             rounds(m, 50, 1243);
         });
+        E.says(29, "the numbers of the others, from 1 as told, as digits", m -> {
+            go(m, 0, 0, 1, 0, 2, 0, 2, 1, 1, 1, 0, 1);
+            rounds(m, 6, 12345);
+            go(m, 0, 0, 0, 1, 1, 1, 2, 1, 2, 0, 1, 0);
+            rounds(m, 6, 12345);
+            go(m, 0, 0, 2, 1, 1, 0, 0, 1, 2, 0, 1, 1);
+            rounds(m, 6, 24153);
+        });
         E.says(29, "ROUND what 0 the fewest steps, 1 in which order. NONE for another what.", m -> {
             go(m, 0, 0, 1, 1);
             E.none("what -1", m.round(-1));
@@ -525,6 +547,11 @@ public final class EdgeThoughtTests {
             E.none("the next", m.order(0));
             E.eq("which one", m.order(1), 0);
             E.eq("how many", m.order(2), 1);
+            // nothing of other thoughts stays
+            stacked(m, 9, 12, NONE, 9, 9, 9, 9, 9, 9, 9, 9, 9, 9, 9, 9);
+            E.eq("how many", m.order(2), 1);
+            m.stack(0);
+            E.eq("which one", m.order(1), 0);
             m.digit(1);
             m.digit(2);
             E.none("what -1", m.order(-1));
@@ -535,6 +562,13 @@ public final class EdgeThoughtTests {
     }
 
     private static void sign33() {
+        E.says(33, "0 .. 9 is laid on it", m -> {
+            for (int sign = 0; sign <= 9; sign++) {
+                E.eq("sign", m.sign(sign), sign + 1);
+                E.eq("the highest", m.stack(0), sign);
+                E.eq("how many", m.stack(1), sign + 1);
+            }
+        });
         E.says(33, "up to 12 told signs", m -> {
             for (int i = 1; i <= 12; i++) {
                 E.eq("sign", m.sign(i == 12 ? 14 : 0), i);
@@ -716,6 +750,13 @@ public final class EdgeThoughtTests {
             row(m, 1, 2, 1, 3, 4, 1);
             E.eq("in the midst", m.runs(0), 4);
             E.eq("one", m.runs(1), 1);
+            row(m, 1, 2, 3, 3);
+            E.eq("at its first", m.runs(0), 3);
+            row(m, 3, 3, 2, 1);
+            E.eq("at its last", m.runs(0), 3);
+            row(m, 5);
+            E.eq("one", m.runs(0), 1);
+            E.eq("one", m.runs(1), 5);
             row(m, 9, 0);
             E.eq("of several the least", m.runs(1), 0);
             row(m, 9, 0, 9);
@@ -780,6 +821,16 @@ public final class EdgeThoughtTests {
             leaking(m, 1, 0);
             // down, right, up, right, down
             open(m, "o.....", "o.ooo.", "o.o.o.", "ooo.o.", "....o.", "....o.");
+            leaking(m, 1, 0);
+            // down, left, up, left, down
+            open(m, ".....o", ".ooo.o", ".o.o.o", ".o.ooo", ".o....", ".o....");
+            leaking(m, 1, 0);
+            open(m, ".....o", ".ooo.o", ".o...o", ".o.ooo", ".o....", ".o....");
+            leaking(m, 0, 1);
+            // one step at a time
+            open(m, ".....o", "....oo", "...oo.", "..oo..", ".oo...", "oo....");
+            leaking(m, 1, 0);
+            open(m, "o.....", "oo....", ".oo...", "..oo..", "...oo.", "....oo");
             leaking(m, 1, 0);
             // from the right to the left and back
             open(m, ".....o", "oooooo", "o.....", "oooooo", ".....o", ".....o");
@@ -860,6 +911,14 @@ public final class EdgeThoughtTests {
     }
 
     private static void game41() {
+        E.says(41, "two by turns lay a two by one on two empty ones side by side or one above the other", m -> {
+            E.none("corner to corner", m.game(2, 2, 6));
+            E.none("corner to corner", m.game(2, 2, 9));
+            E.none("with one between", m.game(3, 1, 2));
+            E.none("with one between", m.game(1, 3, 2));
+            E.eq("side by side", m.game(3, 1, 1), 2);
+            E.eq("one above the other", m.game(1, 3, 1), 3);
+        });
         E.says(41, "who can't loses: how one who wins begins", m -> {
             E.none("one place", m.game(1, 1, 0));
             E.none("one full place", m.game(1, 1, 1));
@@ -936,9 +995,12 @@ public final class EdgeThoughtTests {
 
     private static void gameRefused41() {
         E.says(41, "GAME on w by h (1 .. 4 each) places", m -> {
-            for (int size : new int[] {0, -1, 5, 32, MIN, MAX}) {
-                E.none("w " + size, m.game(size, 2, 0));
-                E.none("h " + size, m.game(2, size, 0));
+            for (int size : new int[] {0, -1, 5, 6, 32, MIN, MAX}) {
+                for (int other = 1; other <= 4; other++) {
+                    E.none("w " + size, m.game(size, other, 0));
+                    E.none("h " + size, m.game(other, size, 0));
+                }
+                E.none("both " + size, m.game(size, size, 0));
             }
         });
         E.says(41, "GAME. NONE, too, if one can't be (the set has no other bits).", m -> {

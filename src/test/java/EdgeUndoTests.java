@@ -379,7 +379,7 @@ public final class EdgeUndoTests {
         E.says(43, "as it was when it was taken; gone back to it may be more than once", m -> {
             populated(m);
             tellThoughts(m, 0);
-            Check.tell(m, 0, "forms 7;dries beads;tears 500 when beads > 3;");
+            Check.tell(m, 0, "forms 7;dries beads/3;tears 500 when beads > 3;");
             Check.tell(m, 1, "at 2 gatherer 0 take 3;at 3 gatherer 0 sell 0 2;at 1 gatherer 0 go 1;at 1 gatherer 0 go 0;");
             Check.tell(m, 2, "at 3 wind 8;at 4 spin 0;");
             Check.tell(m, 3, "web 0 near 1;");
@@ -403,6 +403,25 @@ public final class EdgeUndoTests {
                 E.same("all is as it was", Edges.all(m), then);
                 E.same("and goes on as it did", minuteByMinute(m), later);
             }
+        });
+        E.says(43, "as it was when it was taken", m -> {
+            populated(m);
+            m.act(1, 0, 5);
+            m.act(2, 0, 1);
+            List<Integer> then = Edges.hedge(m);
+            int lines = m.look(9);
+            m.image(true);
+            m.undo();
+            m.undo();
+            m.minutes(7);
+            m.act(1, 0, 4);
+            m.act(2, 0, 0);
+            m.act(1, 0, 3);
+            m.act(2, 0, 0);
+            E.yes("THE BOOK has other lines, and more", m.look(9) > lines && m.book(0, 0) == 7);
+            m.image(false);
+            E.eq("THE BOOK's lines", m.look(9), lines);
+            E.same("all lines as they were", Edges.hedge(m), then);
         });
         E.says(43, "as it was when it was taken", m -> {
             m.web(1, 1);

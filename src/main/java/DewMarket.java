@@ -1138,27 +1138,29 @@ public final class DewMarket {
             }
         }
 
-        /** C. */
+        /** C; a not is open until its C has come, so what stands behind several of them is counted from all. */
         private void clause(int open) {
-            if (kind == NOT || kind == OPEN) {
-                if (open >= MOST_OPEN) {
-                    fail(TOO_MANY);
-                } else if (kind == NOT) {
-                    step();
-                    clause(open + 1);
-                    emit(NOT);
-                } else {
-                    step();
-                    condition(open + 1);
-                    expect(kind == SHUT);
-                }
-                return;
+            int nots = 0;
+            while (kind == NOT && open + nots < MOST_OPEN) {
+                nots++;
+                step();
             }
-            sum();
-            int sign = kind;
-            expect(sign >= LESS && sign <= MORE);
-            sum();
-            emit(sign);
+            if ((kind == NOT || kind == OPEN) && open + nots >= MOST_OPEN) {
+                fail(TOO_MANY);
+            } else if (kind == OPEN) {
+                step();
+                condition(open + nots + 1);
+                expect(kind == SHUT);
+            } else {
+                sum();
+                int sign = kind;
+                expect(sign >= LESS && sign <= MORE);
+                sum();
+                emit(sign);
+            }
+            for (int i = 0; i < nots; i++) {
+                emit(NOT);
+            }
         }
 
         /** E with its T and U in one loop: what waits for its second part is laid down when that has come. */

@@ -32,6 +32,7 @@ public final class LanguageTests {
         forbiddenWords(code);
         library(code);
         methodLengths(code);
+        recursions(code);
         newOnlyAtTheStart(code);
         CHECK.eq("signs beyond 127", source.chars().filter(c -> c > 127).count(), 0);
         CHECK.eq("imports", count(code, "\\bimport\\b"), 0);
@@ -138,6 +139,20 @@ public final class LanguageTests {
                 CHECK.yes(lines[i].trim() + " is short", end - i <= 50);
             }
         }
+    }
+
+    /** Rule 8: a method that calls itself is private and static. */
+    private static void recursions(String code) {
+        Matcher m = Pattern.compile("(?m)^( {4}| {8})((?:private |static |public )*)[\\w\\[\\]]+ (\\w+)\\([^)]*\\) \\{$").matcher(code);
+        int methods = 0;
+        while (m.find()) {
+            methods++;
+            int end = code.indexOf("\n" + m.group(1) + "}\n", m.end());
+            String body = code.substring(m.end(), Math.max(m.end(), end));
+            boolean calls = Pattern.compile("(?<![.\\w])" + m.group(3) + "\\(").matcher(body).find();
+            CHECK.no(m.group(3) + " calls itself and is not private and static", calls && !m.group(2).equals("private static "));
+        }
+        CHECK.yes("methods were found: " + methods, methods > 150);
     }
 
     /** What a run keeps is made with the object: new stands in fields and in the one constructor with a loop alone. */
